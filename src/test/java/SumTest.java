@@ -104,6 +104,12 @@ public final class SumTest {
         Due.told(x, 3, "o3");
         x.algebra(0, 6, 0);
         Due.is("21 most places", x.total(3, 2, 0) + x.total(3, 2, 1) + x.total(3, 2, 3), 648);
+        // What a greater sum has left behind is not told by a lesser one.
+        for (String text : new String[] {"oc", "okc", "ohhc", "okkkc"}) {
+            Due.told(x, 2, text);
+            x.total(3, 2, 0);
+            Due.is("21 first of " + text, x.total(2, 0, 2), -5);
+        }
     }
 
     private static void alike() {
