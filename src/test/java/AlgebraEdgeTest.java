@@ -260,7 +260,7 @@ public final class AlgebraEdgeTest {
         }
     }
 
-    /** "HANDLE: ... over all i and j. CROSS: ... over all i. SPLIT: ... over all i and j": by the least and greatest. */
+    /** HANDLE, CROSS, SPLIT by "over all i and j", "over all i": by the least and greatest. */
     private static void derived() {
         for (int kind : KINDS) {
             for (int size : new int[] {1, mostSize(kind)}) {

@@ -40,6 +40,10 @@ public final class FaceTest {
             if (Modifier.isPublic(m.getModifiers())) {
                 String call = m.getName() + " " + m.getParameterCount() + (m.getReturnType() == long.class ? " long" : "");
                 Due.is("face: " + call, due.contains(call) ? 1 : 0, 1);
+                for (Class<?> told : m.getParameterTypes()) {
+                    Due.is("ints alone are told to " + call, told == int.class ? 1 : 0, 1);
+                }
+                Due.is("int or long is answered by " + call, m.getReturnType() == int.class || call.endsWith("long") ? 1 : 0, 1);
                 found++;
             } else {
                 Due.is("private: " + m.getName(), Modifier.isPrivate(m.getModifiers()) ? 1 : 0, 1);
@@ -64,14 +68,30 @@ public final class FaceTest {
             }
         }
         Due.is("constants", open, CONSTANTS.length);
+        Due.is("NONE", SurfaceSums.NONE, -1);
+        Due.is("BAD", SurfaceSums.BAD, -2);
+        Due.is("STATE", SurfaceSums.STATE, -3);
+        Due.is("FULL", SurfaceSums.FULL, -4);
+        Due.is("NOT", SurfaceSums.NOT, -5);
+        Due.is("NO", SurfaceSums.NO, Long.MIN_VALUE);
     }
 
     private static void classes() {
         Class<?>[] inside = SurfaceSums.class.getDeclaredClasses();
         Due.is("at most twelve classes", inside.length < 12 ? 1 : 0, 1);
+        Set<String> face = new TreeSet<>();
+        for (String call : FACE) {
+            face.add(call.substring(0, call.indexOf(' ')));
+        }
         for (Class<?> c : inside) {
             int modifiers = c.getModifiers();
             Due.is(c.getName(), Modifier.isStatic(modifiers) && !Modifier.isPublic(modifiers) ? 1 : 0, 1);
+            Due.is(c.getName() + ": at most twenty fields", c.getDeclaredFields().length <= 20 ? 1 : 0, 1);
+            for (Method m : c.getDeclaredMethods()) {
+                Due.is(c.getName() + "." + m.getName() + ": own name", face.contains(m.getName()) ? 1 : 0, 0);
+                Due.is(c.getName() + "." + m.getName() + ": not public", Modifier.isPublic(m.getModifiers()) ? 1 : 0, 0);
+                Due.is(c.getName() + "." + m.getName() + ": at most seven told", m.getParameterCount() <= 7 ? 1 : 0, 1);
+            }
         }
     }
 

@@ -187,7 +187,7 @@ public final class GlueEdgeTest {
         drawn("", 24, 0, "ooohhmwkchxxoccohwmw");
     }
 
-    /** "The PIECE comes, if it CAN stand, else none"; "n DRAWS are drawn also where none comes" */
+    /** "The PIECE (z >>> 16) % 7 comes, if it CAN stand ... else none"; "n DRAWS are drawn also where none comes" */
     private static void drawsWhereNoneComes() {
         // By 1 are told: c h h w o o w o m h h k h o x w w w m c c w k o
         drawn("", 1, 1, "");

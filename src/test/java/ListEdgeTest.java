@@ -22,6 +22,7 @@ public final class ListEdgeTest {
         noImage();
         imageOfNothing();
         imageOfAll();
+        imageOfRows();
         imageTakenAgain();
         imageHoldsNotThese();
         undoTwice();
@@ -285,6 +286,34 @@ public final class ListEdgeTest {
         }
         Due.is("36 rows", x.count(4), 8);
         Due.is("36 full again", x.plan(0, 0) + x.algebra(0, 1, 0), -8);
+    }
+
+    /** Each ROW of the PLAN is as it was, what and v. */
+    private static void imageOfRows() {
+        int[][] rows = {{0, 0}, {0, 5}, {0, 2}, {2, 1}, {1, 2}, {0, 6}, {0, 2}, {0, 1}};
+        SurfaceSums x = new SurfaceSums();
+        SurfaceSums y = new SurfaceSums();
+        x.algebra(3, 2, 3);
+        y.algebra(3, 2, 3);
+        Due.told(x, 1, "okc");
+        Due.told(y, 1, "okc");
+        for (int[] row : rows) {
+            x.plan(row[0], row[1]);
+            y.plan(row[0], row[1]);
+        }
+        x.image();
+        x.plan(-1, 0);
+        for (int i = 0; i < 8; i++) {
+            x.plan(1, 9);
+        }
+        Due.is("28 all goes", x.behind(0, 0), 0);
+        x.undo();
+        for (int what : new int[] {0, 1, 2, 10}) {
+            Due.is("36 behind " + what, x.behind(0, what), y.behind(0, what));
+        }
+        // A disc, a handle, a split; what is glued less two, a disc; the crosscap; no split on three circles; pants.
+        Due.is("36 pieces", x.behind(0, 0), 3 + 1 + 1 + 1);
+        Due.is("36 circles", x.behind(0, 1), 2);
     }
 
     private static void imageTakenAgain() {

@@ -17,7 +17,10 @@ public final class SumEdgeTest {
         togetherModulo();
         togetherExactly();
         afterGreater();
+        afterGreaterInOne();
+        eachPieceOnTheMost();
         alikeByCircles();
+        alikeAtTheFirst();
         alikeAtTheLast();
         alikeOfZeros();
         dearest();
@@ -215,6 +218,40 @@ public final class SumEdgeTest {
         Due.is("20 nothing of it", x.sum(2, 1, 1), 0);
         Due.is("22 most places", x.alike(0, 0, 0), 1);
         Due.is("22 nothing of it", x.alike(1, 1, 1), 1);
+        Due.is("21 most places", x.total(0, 0, 1), 216);
+        Due.is("21 first: nothing of it", x.total(1, 1, 2), -5);
+        Due.is("21 most places", x.total(0, 0, 1), 216);
+        Due.is("21 together: nothing of it", x.total(1, 1, 3), 0);
+    }
+
+    /** A surface that had more circles before has nothing of them at its end. */
+    private static void afterGreaterInOne() {
+        String[] texts = {"o3xcx", "o3xcxh", "o3xcxk", "o3xxcc", "o3xccw", "o3xcm", "o3cx", "o3cxx"};
+        int[] due = {6, 6, 6, 36, 36, 6, 6, 6};
+        int[] notZero = {36, 36, 36, 6, 6, 6, 36, 36};
+        for (int i = 0; i < texts.length; i++) {
+            SurfaceSums x = with(0, 6, 0, texts[i]);
+            Due.is("21 how many of " + texts[i], x.total(0, 0, 1), notZero[i]);
+            Due.is("20 the first of " + texts[i], x.sum(0, 0, 0), due[i]);
+            Due.is("21 together of " + texts[i], x.total(0, 0, 3), due[i] * notZero[i]);
+        }
+    }
+
+    /** "At most 3" circles, "SIZE n 1 .. 6": each piece that can stand on them. */
+    private static void eachPieceOnTheMost() {
+        // By points each place of as many discs is 1; a cap counts six of them, pants and handles leave all.
+        String[] texts = {"o3", "o3m", "o3c", "o3x", "o3h", "o3k", "o2o", "o2w", "o2m", "o2c", "o2x", "ow", "ow2"};
+        int[] places = {216, 36, 36, 216, 216, 216, 216, 216, 6, 6, 36, 36, 216};
+        int[] each = {1, 1, 6, 1, 1, 1, 1, 1, 1, 6, 1, 1, 1};
+        int[] notZero = {216, 36, 36, 216, 216, 216, 216, 36, 6, 6, 36, 6, 6};
+        for (int i = 0; i < texts.length; i++) {
+            SurfaceSums x = with(0, 6, 0, texts[i]);
+            Due.is("21 places of " + texts[i], x.total(0, 0, 0), places[i]);
+            Due.is("21 not 0 of " + texts[i], x.total(0, 0, 1), notZero[i]);
+            Due.is("21 together of " + texts[i], x.total(0, 0, 3), notZero[i] * each[i]);
+            Due.is("20 the last of " + texts[i], x.sum(0, 0, places[i] - 1), each[i]);
+            Due.is("20 one behind of " + texts[i], x.sum(0, 0, places[i]), -1);
+        }
     }
 
     /** "Unlike numbers of circles: 0" */
@@ -230,6 +267,19 @@ public final class SumEdgeTest {
                 Due.is("22 " + one + " and " + other + " circles", x.alike(0, 1, 0), one == other ? 1 : 0);
             }
         }
+    }
+
+    private static void alikeAtTheFirst() {
+        SurfaceSums x = with(2, 3, 0, "o");
+        Due.told(x, 1, "oh");
+        Due.is("20 otherwise at the first alone", x.sum(0, 0, 0) * 10 + x.sum(1, 0, 0), 13);
+        Due.is("22 unlike", x.alike(0, 1, 0), 0);
+        Due.told(x, 0, "oc");
+        Due.told(x, 1, "ohc");
+        Due.is("22 unlike, of no circles", x.alike(0, 1, 0), 0);
+        Due.told(x, 1, "ococ");
+        Due.is("22 alike, of no circles", x.alike(0, 1, 0), 1);
+        Due.is("22 alike, of no pieces", x.alike(2, 1, 0), 1);
     }
 
     private static void alikeAtTheLast() {

@@ -29,6 +29,8 @@ public final class SurfaceEdgeTest {
         mostParts();
         eulerFarDown();
         partsMadeOne();
+        partsNumberedAgain();
+        partsAskedAgain();
         exchangeIsOfNone();
         rims();
         genus();
@@ -342,11 +344,49 @@ public final class SurfaceEdgeTest {
         x = with("ooomxo");
         Due.is("18 numbered by first discs", x.rim(0, 0) * 100 + x.rim(0, 1) * 10 + x.rim(0, 2), 102);
         Due.is("16 parts", x.shape(0, 2), 3);
+        // Discs 0 and 2 are made one, with disc 1 in between: the first disc of both counts, whichever circle is the last.
+        x = with("ooxom");
+        Due.is("18 numbered by the first disc", x.rim(0, 0) * 10 + x.rim(0, 1), 10);
+        x = with("ooxoxm");
+        Due.is("18 numbered by the first disc", x.rim(0, 0) * 10 + x.rim(0, 1), 10);
         // A closed part keeps its number before those that stay open.
         x = with("ocohoc");
         Due.is("17 closed", x.part(0, 0, 1), 102);
         Due.is("17 open", x.part(0, 1, 1), 99);
         Due.is("17 closed", x.part(0, 2, 1), 102);
+    }
+
+    /** "They are numbered by their first discs": those behind one that is none any more move up. */
+    private static void partsNumberedAgain() {
+        SurfaceSums x = with("o2mok2");
+        Due.is("17 euler", x.part(0, 0, 1) * 1000 + x.part(0, 1, 1), 101099);
+        Due.is("17 one-sided", x.part(0, 0, 2) * 10 + x.part(0, 1, 2), 1);
+        Due.is("18 rim", x.rim(0, 0) * 10 + x.rim(0, 1), 1);
+        Due.is("17 no third", x.part(0, 2, 0), -1);
+        x = with("o2kmoh");
+        Due.is("17 euler", x.part(0, 0, 1) * 1000 + x.part(0, 1, 1), 100099);
+        Due.is("17 one-sided", x.part(0, 0, 2) * 10 + x.part(0, 1, 2), 10);
+        x = with("o3mmcohcokc");
+        Due.is("17 euler", x.part(0, 0, 1) * 1000 + x.part(0, 1, 1), 102100);
+        Due.is("17 the last", x.part(0, 2, 1) * 10 + x.part(0, 2, 2), 1011);
+    }
+
+    /** What was told of another surface, or of a circle that has gone, is not told of this one. */
+    private static void partsAskedAgain() {
+        // A cap takes the second circle, a split gives another one, of the first part.
+        SurfaceSums x = with("oocw");
+        Due.is("18 of the split", x.rim(0, 0) * 10 + x.rim(0, 1), 0);
+        Due.is("17 rims", x.part(0, 0, 0) * 10 + x.part(0, 1, 0), 20);
+        Due.told(x, 1, "oom");
+        Due.told(x, 2, "okokok");
+        Due.told(x, 3, "ohoo");
+        Due.is("16 one of two", x.shape(1, 2), 1);
+        Due.is("16 two", x.shape(0, 2), 2);
+        Due.is("17 one-sided", x.part(2, 0, 2) + x.part(2, 1, 2) + x.part(2, 2, 2), 3);
+        Due.is("17 not one-sided", x.part(3, 0, 2) + x.part(3, 1, 2) + x.part(3, 2, 2), 0);
+        Due.is("17 euler", x.part(3, 0, 1) * 1000 + x.part(3, 1, 1), 99101);
+        Due.is("19 none", x.match(2, 3), 0);
+        Due.is("19 two", x.match(0, 3) + x.match(3, 3), 0 + 3);
     }
 
     /** "Of an exchange: of none; the circles take their PARTS with them" */
